@@ -616,11 +616,13 @@ public final class ShadowTheatre {
             }
         }
 
-        /** A DEPTH told moves no PLACE and the other way round, so one run tells where both end. */
+        /**
+         * A DEPTH told moves no PLACE and the other way round, so one run tells where both end. The other
+         * FIGURES are left anywhere.
+         */
         private void findEnds(int figure, int step) {
             for (int told = 0; told < PLACES; told++) {
                 int deep = Math.min(told + 1, DEPTHS);
-                show.open();
                 stage.put(figure, deep, told);
                 show.doCues(step, 0);
                 endDepth[deep] = stage.depthOf(figure);
@@ -895,11 +897,8 @@ public final class ShadowTheatre {
             return product;
         }
 
-        /** Below is a power of 2, so halving is enough. */
+        /** Below is a power of 2, so halving is enough; 0 is halved until it is 0 by 1. */
         private void lowerTerms() {
-            if (above == 0) {
-                below = 1;
-            }
             for (int i = 0; i < MOST_HALVINGS && above % 2 == 0 && below % 2 == 0; i++) {
                 above /= 2;
                 below /= 2;

@@ -549,6 +549,9 @@ public final class PromisesTest {
         is(x.touched(0), 13);
         is(x.touched(1), 1);
         is(x.touched(2), 2);
+        put(x, 0, "405k#;403k##;401k##");
+        put(x, 1, "");
+        is(x.touched(0), NONE);
         put(x, 0, "831k#;831k#");
         is(x.touched(0), 0);
         put(x, 0, "431k#;831k#");
@@ -602,6 +605,9 @@ public final class PromisesTest {
         put(x, 2, "774");
         hang(x, 0, 0, 1, 0, 0);
         hang(x, 1, 0, 2, 13, 1);
+        put(x, 0, "100k######");
+        put(x, 2, "70000007777777777777777777777777");
+        hang(x, 0, 0, 8, 1, 0);
         bad(o -> o.hang(2, 0, 0));
         bad(o -> o.hang(-1, 0, 0));
         bad(o -> o.hang(0, 20, 0));
@@ -664,6 +670,17 @@ public final class PromisesTest {
         more(x, 2, 0, 5);
         put(x, 2, ".....7");
         more(x, 1, 0, NONE);
+        // at DEPTH 7, too, PLACE 5 is the ray's to CELL 3
+        put(x, 2, "...0");
+        more(x, 1, 2, NONE);
+        put(x, 2, "...0......7");
+        more(x, 2, 2, 4);
+        put(x, 0, "805k##;810r#");
+        put(x, 2, "...0077");
+        more(x, 2, 0, 0);
+        put(x, 0, "805k#;810r#");
+        put(x, 2, "......0....4");
+        more(x, 2, 1, 5);
         put(x, 1, "aralararararaf..brblbrbl............araf");
         put(x, 2, "");
         more(x, NONE, NONE, NONE);
@@ -715,6 +732,16 @@ public final class PromisesTest {
         leave(x, 3, 0, NONE, NONE);
         put(x, 2, "");
         leave(x, 0, NONE, NONE, NONE);
+        put(x, 0, "805k#");
+        put(x, 2, ".....0");
+        leave(x, 0, 0, NONE, NONE);
+        put(x, 2, ".....7");
+        leave(x, 0, 1, 0, NONE);
+        put(x, 1, "");
+        put(x, 0, "805k#;809k#;806k#;805k#;805k#");
+        leave(x, 0, NONE, NONE, NONE);
+        put(x, 0, "809k#;805k#;806k#;805k#");
+        leave(x, 0, 2, 1, 3);
         put(x, 0, "");
         put(x, 2, "7");
         leave(x, 0, 0, NONE, NONE);
@@ -840,6 +867,10 @@ public final class PromisesTest {
         is(x.was(0, 1), 0);
         is(x.ask(0), 0);
         x.forget();
+        put(x, 1, "ar");
+        is(x.ask(0), 18);
+        put(x, 1, "......................................ar");
+        is(x.ask(0), 18);
         x.flicker(19);
         is(x.ask(0), 0);
         x.back();
@@ -911,6 +942,22 @@ public final class PromisesTest {
         is(x.play(0, 2, 0), 19);
         is(x.play(0, 3, 0), 19);
         is(x.shown(1), 0);
+        // from SEED 2 with three FIGURES br, cf, ab, ar; with one ar, af, ab, ar
+        put(x, 0, "805k#;810r#;815g#");
+        put(x, 2, "......0....4");
+        is(x.play(2, 4, 0), 17);
+        is(x.play(2, 3, 0), 0);
+        put(x, 2, "...........4");
+        is(x.play(2, 1, 0), 20);
+        is(x.play(2, 0, 0), 0);
+        put(x, 0, "805k#");
+        put(x, 2, "......0");
+        int[] shownIn = {0, 20, 1, 19, 2};
+        for (int n = 0; n < 5; n++) is(x.play(2, n, 0), shownIn[n]);
+        is(x.play(2, 2, 1), 2);
+        is(x.play(2, 3, 1), 1);
+        put(x, 0, "805k#;110r#");
+        put(x, 2, ".....0");
         put(x, 1, "");
         is(x.shown(1), 20);
         x.flicker(3);
@@ -1116,6 +1163,11 @@ public final class PromisesTest {
         is(x.digest(), all[1].digest());
         x.flicker(0);
         is(x.digest() == all[1].digest() ? 1 : 0, 0);
+        String cues = "alarblbrafabbfbbclcralarblbrafabcfcbclcr";
+        for (int many = 4; many <= 20; many++) {
+            x = told("816k###;416r#.#;215g##", cues.substring(0, 2 * many), "...............000....7");
+            is(x.digest(), digest(x));
+        }
     }
 
     /** The order that the document tells, by the calls themselves. */

@@ -6,7 +6,8 @@ import java.util.function.LongSupplier;
 
 /** Runs of calls drawn by fixed seeds, the class held against PlainTheatre call by call. */
 public final class RandomRunsTest {
-    private static final int RUNS = 400, CALLS = 500;
+    /** No object is asked more than 512 times: a change may still take some forty calls. */
+    private static final int RUNS = 600, CALLS = 465;
 
     private final Random lots;
     private final ShadowTheatre x = new ShadowTheatre();

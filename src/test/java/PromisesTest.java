@@ -1,16 +1,5 @@
-import java.util.function.ToLongFunction;
-
 /** For each promise of the document: ordinary inputs, the edges that it names, wrong inputs. */
-public final class PromisesTest {
-    private static final int NONE = ShadowTheatre.NONE, BAD = ShadowTheatre.BAD;
-    private static final int NOT = ShadowTheatre.NOT, FULL = ShadowTheatre.FULL;
-    private static final int LEAST = Integer.MIN_VALUE;
-    private static final int NULL = -11, INDEX = -12, CAST = -13, STORE = -14, SIZE = -15;
-
-    private static int promise = 0;
-    private static int asked = 0;
-    private static int wrong = 0;
-
+public final class PromisesTest extends Checks {
     public static void main(String[] args) {
         aNewObject();
         texts();
@@ -44,90 +33,13 @@ public final class PromisesTest {
         writing();
         counting();
         digests();
-        System.out.println(asked + " answers asked, " + wrong + " not as due");
-        if (wrong != 0) System.exit(1);
-    }
-
-    // ---- helpers
-
-    private static void is(long got, long want) {
-        asked++;
-        if (got == want) return;
-        wrong++;
-        StackTraceElement[] trace = new Throwable().getStackTrace();
-        int line = 0;
-        for (StackTraceElement e : trace) {
-            if (!e.getMethodName().matches("is|refused|bad")) {
-                line = e.getLineNumber();
-                break;
-            }
-        }
-        System.out.println("promise " + promise + ", line " + line + ": got " + got + ", due is " + want);
-    }
-
-    private static void put(ShadowTheatre x, int text, String bytes) {
-        x.wipe(text);
-        for (int i = 0; i < bytes.length(); i++) x.type(text, bytes.charAt(i));
-    }
-
-    private static ShadowTheatre told(String figures, String cues, String picture) {
-        ShadowTheatre x = new ShadowTheatre();
-        put(x, 0, figures);
-        put(x, 1, cues);
-        put(x, 2, picture);
-        return x;
-    }
-
-    /** An object with something in every corner; SHEET 3 is LOST, the latest FINDING is 2. */
-    private static ShadowTheatre rich() {
-        ShadowTheatre x = told("416k##.#;614r###", "alarbl..", "......0.....4");
-        x.lamp(11);
-        x.flicker(2);
-        x.flicker(5);
-        x.seen(3, 14, 4);
-        x.seen(0, 20, 7);
-        for (int form = 0; form < 3; form++) {
-            x.sheet(form, form, 5);
-            for (int i = 0; i < 5; i++) x.lay(form, form, i, 10 * form + i);
-        }
-        x.get(0, 0, 9);
-        return x;
-    }
-
-    /** All that can be asked of rich() without a change, but count(8); the lamp is put back. */
-    private static long stateOf(ShadowTheatre x) {
-        long h = x.digest();
-        int lamp = x.lamp(3);
-        h = 31 * h + lamp;
-        x.lamp(lamp);
-        for (int s = 0; s < 3; s++) for (int i = 0; i < 5; i++) h = 31 * h + x.get(s, s, i);
-        for (int step = 0; step < 20; step++) h = 31 * h + x.screen(step, 1);
-        return h;
-    }
-
-    /** The call answers want, leaves finding as count(8) and changes nothing else. */
-    private static void refused(ToLongFunction<ShadowTheatre> call, long want, int finding) {
-        ShadowTheatre x = rich();
-        long before = stateOf(x);
-        is(call.applyAsLong(x), want);
-        is(x.count(8), finding);
-        is(stateOf(x), before);
-        is(x.sheet(0, 0, 5), 5);
-        is(x.lose(3), NULL);
-    }
-
-    private static void bad(ToLongFunction<ShadowTheatre> call) {
-        refused(call, BAD, 2);
-    }
-
-    private static void found(ToLongFunction<ShadowTheatre> call, int answer) {
-        refused(call, answer, -10 - answer);
+        end();
     }
 
     // ---- promises 1 to 5
 
     private static void aNewObject() {
-        promise = 1;
+        about("promise 1");
         ShadowTheatre x = new ShadowTheatre();
         for (int what = 0; what <= 8; what++) is(x.count(what), 0);
         for (int text = 0; text < 3; text++) is(x.fault(text), NONE);
@@ -144,37 +56,35 @@ public final class PromisesTest {
     }
 
     private static void texts() {
-        int[] room = {87, 40, 32};
         for (int text = 0; text < 3; text++) {
             int t = text;
-            promise = 2;
+            about("promise 2");
             ShadowTheatre x = new ShadowTheatre();
             is(x.type(text, 0), 1);
             is(x.type(text, 255), 2);
             is(x.type(text, 256), BAD);
             is(x.type(text, -1), BAD);
             is(x.count(3 + text), 2);
-            for (int n = 3; n <= room[text]; n++) is(x.type(text, '.'), n);
+            for (int n = 3; n <= ROOM[text]; n++) is(x.type(text, '.'), n);
             is(x.type(text, '.'), FULL);
             is(x.type(text, 256), BAD);
-            is(x.count(3 + text), room[text]);
+            is(x.count(3 + text), ROOM[text]);
             bad(o -> o.type(t, 256));
             bad(o -> o.type(t, -1));
-            refused(o -> { fill(o, t, room[t]); return o.type(t, '7') - FULL + o.count(3 + t); }, room[t], 2, t);
-            promise = 4;
-            is(x.undo(text), room[text] - 1);
-            promise = 3;
-            is(x.wipe(text), room[text] - 1);
+            about("promise 4");
+            is(x.undo(text), ROOM[text] - 1);
+            about("promise 3");
+            is(x.wipe(text), ROOM[text] - 1);
             is(x.wipe(text), 0);
             is(x.fault(text), NONE);
-            promise = 4;
+            about("promise 4");
             is(x.undo(text), NOT);
             is(x.type(text, '9'), 1);
             is(x.undo(text), 0);
             is(x.undo(text), NOT);
             is(x.count(3 + text), 0);
         }
-        promise = 2;
+        about("promise 2");
         bad(o -> o.type(3, 48));
         bad(o -> o.type(-1, 48));
         ShadowTheatre one = told("", "", "7");
@@ -184,7 +94,7 @@ public final class PromisesTest {
         is(one.picture(0), 7);
         is(one.undo(0), 0);
         is(one.fault(0), NONE);
-        promise = 3;
+        about("promise 3");
         bad(o -> o.wipe(3));
         bad(o -> o.wipe(-1));
         ShadowTheatre x = rich();
@@ -197,7 +107,7 @@ public final class PromisesTest {
         is(x.count(2), 0);
         is(x.count(6), 2);
         is(x.count(7), 2);
-        promise = 4;
+        about("promise 4");
         bad(o -> o.undo(3));
         bad(o -> o.undo(-1));
         x = told("800k#;800k", "al", "70");
@@ -213,20 +123,6 @@ public final class PromisesTest {
         is(x.cue(0, 0), NONE);
     }
 
-    private static void fill(ShadowTheatre x, int text, int room) {
-        for (int n = x.count(3 + text); n < room; n++) x.type(text, '.');
-    }
-
-    /** As refused, for a call that has to change that text first. */
-    private static void refused(ToLongFunction<ShadowTheatre> call, long want, int finding, int text) {
-        ShadowTheatre x = rich();
-        is(call.applyAsLong(x), want);
-        is(x.count(8), finding);
-        for (int other = 0; other < 3; other++) {
-            if (other != text) is(x.fault(other), NONE);
-        }
-    }
-
     private static void fault(int text, String bytes, int want) {
         ShadowTheatre x = new ShadowTheatre();
         put(x, text, bytes);
@@ -236,7 +132,7 @@ public final class PromisesTest {
     }
 
     private static void faults() {
-        promise = 5;
+        about("promise 5");
         Object[][] figures = {
             {"", NONE}, {"8", 1}, {"0", 0}, {"9", 0}, {"x", 0}, {" 1", 0}, {";", 0}, {"84", 1}, {"8:", 1}, {"8/", 1},
             {"83", 2}, {"832", 2}, {"839", 2}, {"831", 3}, {"829", 3}, {"82x", 2}, {"80/", 2}, {"80:", 2}, {"800x", 3},
@@ -269,7 +165,7 @@ public final class PromisesTest {
     // ---- promises 6 to 12
 
     private static void figuresTold() {
-        promise = 6;
+        about("promise 6");
         ShadowTheatre x = told("109k#;831r.#.#.#;420g##;300b.", "al", "");
         int[][] want = {
             {1, 9, 0, 1, 1, NONE, NONE, NONE, NONE, NONE}, {8, 31, 1, 6, 0, 1, 0, 1, 0, 1},
@@ -292,7 +188,7 @@ public final class PromisesTest {
     }
 
     private static void cuesTold() {
-        promise = 7;
+        about("promise 7");
         ShadowTheatre x = told("", "alhr..bfcb", "");
         int[][] want = {{0, 0}, {7, 1}, {NONE, NONE}, {1, 2}, {2, 3}, {NONE, NONE}};
         for (int step = 0; step < 6; step++) {
@@ -315,7 +211,7 @@ public final class PromisesTest {
     }
 
     private static void pictureTold() {
-        promise = 8;
+        about("promise 8");
         ShadowTheatre x = told("", "", "01234567.7");
         for (int cell = 0; cell < 8; cell++) is(x.picture(cell), cell);
         is(x.picture(8), NONE);
@@ -331,7 +227,7 @@ public final class PromisesTest {
     }
 
     private static void lampAndFlickers() {
-        promise = 9;
+        about("promise 9");
         ShadowTheatre x = told("400k#", "", "");
         is(x.lamp(0), 16);
         is(x.covers(0, 0), 1);
@@ -340,7 +236,7 @@ public final class PromisesTest {
         is(x.lamp(31), 31);
         bad(o -> o.lamp(32));
         bad(o -> o.lamp(-1));
-        promise = 10;
+        about("promise 10");
         for (int n = 1; n <= 8; n++) is(x.flicker(n == 8 ? 19 : 0), n);
         is(x.flicker(3), FULL);
         is(x.flicker(20), BAD);
@@ -350,7 +246,7 @@ public final class PromisesTest {
         is(x.light(19, 31), 0);
         bad(o -> o.flicker(20));
         bad(o -> o.flicker(-1));
-        promise = 11;
+        about("promise 11");
         is(x.back(), 7);
         is(x.light(19, 31), 7);
         for (int left = 6; left >= 0; left--) {
@@ -364,7 +260,7 @@ public final class PromisesTest {
     }
 
     private static void reading() {
-        promise = 12;
+        about("promise 12");
         ShadowTheatre x = new ShadowTheatre();
         x.sheet(0, 0, 4);
         x.lay(0, 0, 0, 3);
@@ -399,7 +295,7 @@ public final class PromisesTest {
     // ---- promises 13 to 19
 
     private static void lights() {
-        promise = 13;
+        about("promise 13");
         ShadowTheatre x = told("802k#;802r#;804r##;805g##;806b#;809b.#", "", "");
         int[] want = {7, 7, 0, 7, 4, 0, 0, 7, 7, 7, 1, 7};
         for (int cell = 0; cell < want.length; cell++) is(x.light(0, cell), want[cell]);
@@ -430,7 +326,7 @@ public final class PromisesTest {
     }
 
     private static void covering() {
-        promise = 14;
+        about("promise 14");
         ShadowTheatre x = told("116k#;412r##;831g######;131b#", "", "");
         int[] byDepth1 = {0, 1, 1, 0};
         int[] cells = {11, 12, 19, 20};
@@ -459,7 +355,7 @@ public final class PromisesTest {
     }
 
     private static void whereabouts() {
-        promise = 15;
+        about("promise 15");
         ShadowTheatre x = told("101k#;130r.#;731g#", "alalbrbrafcbcbbb", "");
         int[][] a = {{1, 0}, {1, 0}, {1, 0}, {1, 0}, {1, 0}};
         for (int step = 0; step < 5; step++) for (int w = 0; w < 2; w++) is(x.at(step, 0, w), a[step][w]);
@@ -489,7 +385,7 @@ public final class PromisesTest {
     }
 
     private static void screens() {
-        promise = 16;
+        about("promise 16");
         ShadowTheatre x = told("802k##;806r#", "ar", "7.0.7.7.0");
         is(x.screen(0, 0), 4);
         is(x.screen(0, 1), 2);
@@ -510,7 +406,7 @@ public final class PromisesTest {
     }
 
     private static void showing() {
-        promise = 17;
+        about("promise 17");
         ShadowTheatre x = told("802k#", "ararar..al", ".....0");
         is(x.shown(0), 2);
         is(x.shown(1), 2);
@@ -532,7 +428,7 @@ public final class PromisesTest {
     }
 
     private static void touching() {
-        promise = 18;
+        about("promise 18");
         ShadowTheatre x = told("402k##;505k#;404r..;405g.;500b.", "..ar", "");
         is(x.touched(0), 0);
         is(x.touched(1), 2);
@@ -561,7 +457,7 @@ public final class PromisesTest {
     }
 
     private static void darkest() {
-        promise = 19;
+        about("promise 19");
         ShadowTheatre x = told("816k#", "..af..ab..af", "");
         is(x.screen(0, 1), 1);
         is(x.darkest(), 0);
@@ -584,7 +480,7 @@ public final class PromisesTest {
     // ---- promises 20 to 23
 
     private static void hanging() {
-        promise = 20;
+        about("promise 20");
         ShadowTheatre x = told("802k##", "", "7777777777007777");
         hang(x, 0, 0, 7, 11, 0);
         put(x, 1, "ar..ab");
@@ -623,7 +519,7 @@ public final class PromisesTest {
     }
 
     private static void shifting() {
-        promise = 21;
+        about("promise 21");
         ShadowTheatre x = told("100k#", "", "0000000000000000");
         is(x.shift(0, 0), 0);
         is(x.shift(0, 1), 12);
@@ -657,7 +553,7 @@ public final class PromisesTest {
     }
 
     private static void more() {
-        promise = 22;
+        about("promise 22");
         ShadowTheatre x = told("805k#;810r#", "", ".....0");
         more(x, 0, NONE, NONE);
         put(x, 2, "......0");
@@ -708,7 +604,7 @@ public final class PromisesTest {
     }
 
     private static void leaving() {
-        promise = 23;
+        about("promise 23");
         ShadowTheatre x = told("805k#;805r#;805g#;806b#", "dr", ".....0");
         leave(x, 0, 0, NONE, NONE);
         put(x, 2, ".....2");
@@ -754,7 +650,7 @@ public final class PromisesTest {
     // ---- promises 24 to 28
 
     private static void seeing() {
-        promise = 24;
+        about("promise 24");
         ShadowTheatre x = told("805k#", "", "");
         for (int n = 1; n <= 8; n++) is(x.seen(n == 8 ? 19 : 0, n == 8 ? 31 : 0, 7), n);
         is(x.seen(0, 0, 7), FULL);
@@ -767,7 +663,7 @@ public final class PromisesTest {
         bad(o -> o.seen(0, -1, 0));
         bad(o -> o.seen(0, 0, 8));
         bad(o -> o.seen(0, 0, -1));
-        promise = 25;
+        about("promise 25");
         is(x.forget(), 8);
         is(x.forget(), 0);
         is(x.count(7), 0);
@@ -778,7 +674,7 @@ public final class PromisesTest {
     }
 
     private static void never() {
-        promise = 26;
+        about("promise 26");
         ShadowTheatre x = told("805k#", "ar..alblarab", "");
         is(x.never(), 1 + 4 + 8 + 16 + 32);
         x.seen(19, 6, 0);
@@ -801,7 +697,7 @@ public final class PromisesTest {
     }
 
     private static void colours() {
-        promise = 27;
+        about("promise 27");
         ShadowTheatre x = told("805k#;805r#", "", "");
         is(x.was(0, 0), 15);
         x.seen(0, 5, 0);
@@ -823,7 +719,7 @@ public final class PromisesTest {
     }
 
     private static void depths() {
-        promise = 27;
+        about("promise 27");
         ShadowTheatre x = told("116k#;805r#", "", "");
         is(x.was(0, 1), 510);
         x.seen(0, 17, 0);
@@ -850,7 +746,7 @@ public final class PromisesTest {
     }
 
     private static void asking() {
-        promise = 28;
+        about("promise 28");
         ShadowTheatre x = told("116k#", "", "");
         // from as many of the 8 DEPTHS it COVERS: CELLS 12 and 13 from 1, 14 from 2, 15 from 4, 16 from 8, 17 from 3
         is(x.ask(0), 15);
@@ -888,7 +784,7 @@ public final class PromisesTest {
     }
 
     private static void stumbling() {
-        promise = 29;
+        about("promise 29");
         ShadowTheatre x = told("805k#", "ar", "......0");
         stumble(x, 4, 0, 0, 3, 4);
         stumble(x, 5, 0, 19, 11, 16);
@@ -932,7 +828,7 @@ public final class PromisesTest {
     }
 
     private static void playing() {
-        promise = 30;
+        about("promise 30");
         ShadowTheatre x = told("805k#;110r#", "arararar", ".....0");
         // no CUES: those told are not done either
         is(x.play(1, 0, 0), 20);
@@ -978,7 +874,7 @@ public final class PromisesTest {
     // ---- promises 31 to 36
 
     private static void sheets() {
-        promise = 31;
+        about("promise 31");
         ShadowTheatre x = new ShadowTheatre();
         for (int form = 0; form < 3; form++) {
             is(x.sheet(form, form, 60), 60);
@@ -1001,7 +897,7 @@ public final class PromisesTest {
         bad(o -> o.sheet(0, 3, -1));
         found(o -> o.sheet(0, 0, -1), SIZE);
         found(o -> o.sheet(3, 2, Integer.MIN_VALUE), SIZE);
-        promise = 32;
+        about("promise 32");
         is(x.lose(1), 3);
         is(x.lose(1), NULL);
         is(x.count(8), 1);
@@ -1013,16 +909,16 @@ public final class PromisesTest {
     }
 
     private static void layingAndGetting() {
-        promise = 33;
+        about("promise 33");
         ShadowTheatre x = new ShadowTheatre();
         int[][] cut = {{200, -56, 200, 200}, {40000, 64, -25536, 40000}, {-1, -1, -1, -1},
             {LEAST, 0, 0, LEAST}, {128, -128, 128, 128}, {127, 127, 127, 127}, {0x18000, 0, -32768, 0x18000}};
         for (int form = 0; form < 3; form++) {
             x.sheet(form, form, cut.length);
             for (int i = 0; i < cut.length; i++) is(x.lay(form, form, i, cut[i][0]), 1);
-            promise = 34;
+            about("promise 34");
             for (int i = 0; i < cut.length; i++) is(x.get(form, form, i), cut[i][1 + form]);
-            promise = 33;
+            about("promise 33");
         }
         is(x.count(8), 0);
         bad(o -> o.lay(4, 0, 0, 0));
@@ -1034,7 +930,7 @@ public final class PromisesTest {
         found(o -> o.lay(1, 2, 0, 0), CAST);
         found(o -> o.lay(0, 0, 5, 0), INDEX);
         found(o -> o.lay(0, 0, -1, 0), INDEX);
-        promise = 34;
+        about("promise 34");
         refused(o -> o.get(4, 0, 0), LEAST, 2);
         refused(o -> o.get(-1, 0, 0), LEAST, 2);
         refused(o -> o.get(3, 3, 0), LEAST, 2);
@@ -1046,31 +942,27 @@ public final class PromisesTest {
         refused(o -> { o.lose(3); return o.get(0, 0, -1); }, LEAST, 2);
     }
 
-    private static void row(ShadowTheatre x, int s, int... want) {
-        for (int i = 0; i < want.length; i++) is(x.get(s, 2, i), want[i]);
-    }
-
     private static void copying() {
-        promise = 35;
+        about("promise 35");
         ShadowTheatre x = new ShadowTheatre();
         x.sheet(0, 2, 5);
         x.sheet(1, 2, 3);
         for (int i = 0; i < 5; i++) x.lay(0, 2, i, i + 1);
         is(x.copy(0, 1, 1, 0, 3), 1);
-        row(x, 1, 2, 3, 4);
+        rowIs(x, 1, 2, 3, 4);
         is(x.copy(0, 0, 0, 1, 4), 1);
-        row(x, 0, 1, 1, 2, 3, 4);
+        rowIs(x, 0, 1, 1, 2, 3, 4);
         is(x.copy(0, 2, 0, 0, 3), 1);
-        row(x, 0, 2, 3, 4, 3, 4);
+        rowIs(x, 0, 2, 3, 4, 3, 4);
         is(x.copy(0, 5, 1, 3, 0), 1);
         is(x.copy(1, 3, 0, 5, 0), 1);
         is(x.copy(1, 0, 0, 2, 3), 1);
-        row(x, 0, 2, 3, 2, 3, 4);
+        rowIs(x, 0, 2, 3, 2, 3, 4);
         is(x.copy(0, 6, 1, 0, 0), INDEX);
         is(x.copy(0, 0, 1, 4, 0), INDEX);
         is(x.copy(0, 0, 1, 0, 4), INDEX);
         is(x.copy(1, 1, 0, 0, 3), INDEX);
-        row(x, 0, 2, 3, 2, 3, 4);
+        rowIs(x, 0, 2, 3, 2, 3, 4);
         bad(o -> o.copy(4, 0, 0, 0, 0));
         bad(o -> o.copy(0, 0, 4, 0, 0));
         bad(o -> o.copy(3, 0, -1, 0, 0));
@@ -1091,16 +983,16 @@ public final class PromisesTest {
     }
 
     private static void writing() {
-        promise = 36;
+        about("promise 36");
         ShadowTheatre x = told("800r#;802b#;831g#", "..ar", "");
         x.sheet(0, 2, 4);
         is(x.write(0, 0), 4);
-        row(x, 0, 4, 7, 1, 7);
+        rowIs(x, 0, 4, 7, 1, 7);
         is(x.write(1, 0), 4);
-        row(x, 0, 7, 4, 1, 7);
+        rowIs(x, 0, 7, 4, 1, 7);
         x.flicker(1);
         is(x.write(1, 0), 4);
-        row(x, 0, 0, 0, 0, 0);
+        rowIs(x, 0, 0, 0, 0, 0);
         x.sheet(1, 0, 60);
         x.lay(1, 0, 32, 99);
         is(x.write(0, 1), 32);
@@ -1123,7 +1015,7 @@ public final class PromisesTest {
     // ---- promises 37 and 38
 
     private static void counting() {
-        promise = 37;
+        about("promise 37");
         ShadowTheatre x = rich();
         int[] want = {2, 3, 2, 16, 8, 13, 2, 2, 2};
         for (int what = 0; what < want.length; what++) is(x.count(what), want[what]);
@@ -1149,7 +1041,7 @@ public final class PromisesTest {
     }
 
     private static void digests() {
-        promise = 38;
+        about("promise 38");
         ShadowTheatre[] all = {new ShadowTheatre(), rich(), told("816k###;416r#.#;215g##;131b......", "arbrcldfarbb", "7...")};
         for (ShadowTheatre x : all) {
             long byHand = digest(x);

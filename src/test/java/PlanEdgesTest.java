@@ -107,6 +107,20 @@ public final class PlanEdgesTest extends Checks {
         is(x.hang(0, 1, 0), 1);
     }
 
+    static void hangMayTellDepth8AndCuesLeaveIt() {
+        // six MARKS at DEPTH 7 COVER seven CELLS, 20 and 21 among them, at DEPTH 8 six, at DEPTH 6 eight
+        ShadowTheatre x = told("100k######", "af", times(16, "7") + times(7, "0") + times(9, "7"));
+        hang(x, 0, 0, 8, 16, 0);
+        put(x, 1, "..af");
+        hang(x, 0, 0, 7, 16, 0);
+        hang(x, 0, 1, 8, 16, 0);
+        // from LAMP 0 CELLS 4 and 5 are at one PLACE at DEPTH 7
+        put(x, 1, "");
+        put(x, 2, "7" + times(6, "0") + times(25, "7"));
+        x.lamp(0);
+        hang(x, 0, 0, 8, 1, 0);
+    }
+
     static void hangIsForTheTimeBeingOfItsStep() {
         ShadowTheatre x = told("816k#", "ar" + times(18, "..") + "ar", DARK_31);
         x.lamp(31);
@@ -183,6 +197,12 @@ public final class PlanEdgesTest extends Checks {
         is(x.screen(0, 0), 0);
         x.lamp(30);
         is(x.screen(0, 0), 1);
+    }
+
+    static void noLampBeyond31LightsAll() {
+        // from each LAMP CELL 31 is dark
+        shift(told("831k#", "", times(32, "7")), 0, 0, 1);
+        shift(told("800k######;831k#", "", times(32, "7")), 19, 0, 7);
     }
 
     static void shiftMayTell0() {

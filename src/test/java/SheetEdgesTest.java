@@ -686,6 +686,33 @@ public final class SheetEdgesTest extends Checks {
         }
     }
 
+    static void digestHeedsHowManyStepsThePlayIsShown() {
+        // in the PICTURE as it is behind 14, 15 or 16 CUES
+        for (int n = 13; n <= 17; n++) {
+            for (String figure : new String[] {"816k##", "516k#.#", "616r#"}) {
+                StringBuilder cues = new StringBuilder();
+                int lot = 7;
+                for (int i = 0; i < n; i++) {
+                    lot = 1103515245 * (1103515245 * lot + 12345) + 12345;
+                    cues.append('a').append("lrfb".charAt((lot >>> 16) % 4));
+                }
+                String picture = lights(told(figure, cues.toString(), ""), 19);
+                is(told(figure, cues.toString(), picture).shown(1) > 0 ? 1 : 0, 1);
+                int behind = told(figure, "", picture).play(7, n, 0);
+                is(behind, told(figure, cues.toString(), picture).shown(1));
+                digestIsByHand(figure, "", picture, 16);
+            }
+        }
+    }
+
+    static void digestHeedsFlickersOfItsSteps() {
+        for (int step = 0; step < STEPS; step++) {
+            digestIsByHand("816k#;812r#", "arbl", times(32, "7"), 16, step);
+            digestIsByHand("816k#;812r#", "arbl", times(16, ".") + "0", 5, step, 19 - step);
+            digestIsByHand("", "", "7", 16, step);
+        }
+    }
+
     static void digestOfARichAndOfAFullObject() {
         digestIsByHand(Checks::rich);
         digestIsByHand(Checks::full);

@@ -67,6 +67,17 @@ public final class SightEdgesTest extends Checks {
         for (int v : new int[] {-1, 8, LEAST, MOST}) bad(x -> x.seen(0, 0, v));
     }
 
+    static void eachOfEightSightsIsHeeded() {
+        for (int wrong = 0; wrong < 8; wrong++) {
+            ShadowTheatre x = told("805k#", times(8, "ar"), "");
+            for (int n = 0; n < 8; n++) x.seen(n, 6 + n, n == wrong ? 7 : 0);
+            is(x.was(0, 0), 0);
+            is(x.was(0, 1), 0);
+            // but for the last one, which comes out so if its CUE was not done
+            is(x.never(), wrong == 7 ? 1 << 7 : 0);
+        }
+    }
+
     static void theSameMayBeSeenTwice() {
         ShadowTheatre x = figures("805k#");
         is(x.seen(0, 5, 0), 1);
@@ -222,6 +233,20 @@ public final class SightEdgesTest extends Checks {
         is(x.was(0, 0), ALL_COLOURS);
     }
 
+    static void aColourIsSeenWhereTheCuesBringIt() {
+        ShadowTheatre x = told("805k#", "ar" + times(18, "..") + "ar", "");
+        x.seen(0, 6, 4);
+        is(x.was(0, 0), 2);
+        x.seen(19, 7, 4);
+        is(x.was(0, 0), 2);
+        x.seen(18, 6, 4);
+        is(x.was(0, 0), 2);
+        x.seen(19, 6, 4);
+        is(x.was(0, 0), 0);
+        see(x, 0, 5, 7);
+        is(x.was(0, 0), ALL_COLOURS);
+    }
+
     static void eachSingleDepthIsTold() {
         // from LAMP 0 the ray to a CELL goes through PLACE 0 while 4, and DEPTH times CELL, is below 8
         for (int depth = 1; depth <= 8; depth++) {
@@ -339,6 +364,64 @@ public final class SightEdgesTest extends Checks {
         x.lamp(0);
         x.seen(0, 31, 7);
         is(x.was(0, 1), ALL_DEPTHS - 256);
+        is(x.ask(0), 0);
+    }
+
+    static void askHeedsDepth1() {
+        // from LAMP 0 PLACE 4 is that of CELLS 28 to 31 at DEPTH 1, 14 to 17, 10 and 11, 7 and 8, 6 and 7, 5,
+        // 4 and 5 at the next ones, 4 at DEPTH 8
+        ShadowTheatre x = figures("804k#");
+        x.lamp(0);
+        for (int cell : new int[] {5, 6, 7, 8, 10, 17}) x.seen(0, cell, 7);
+        is(x.was(0, 1), 2 + 256);
+        is(x.ask(0), 4);
+        x.seen(0, 4, 7);
+        is(x.was(0, 1), 2);
+        is(x.ask(0), 0);
+    }
+
+    static void askTellsEveryLightFromEveryOther() {
+        // what the others leave of CELL 31, and what is left behind black and behind glass
+        String[] others = {"831r#", "831g#", "831b#"};
+        for (String other : others) {
+            for (char colour : "krgb".toCharArray()) {
+                ShadowTheatre x = figures("131" + colour + "#;" + other);
+                x.lamp(0);
+                is(x.ask(0), colour == other.charAt(3) ? 0 : 31);
+            }
+        }
+        for (char colour : "krgb".toCharArray()) {
+            ShadowTheatre x = figures("131" + colour + "#");
+            x.lamp(0);
+            is(x.ask(0), 31);
+        }
+    }
+
+    static void askedAgainItAnswersTheSame() {
+        ShadowTheatre x = figures("100k#;131k#");
+        for (int n = 0; n < 40; n++) {
+            x.lamp(31);
+            is(x.ask(0), 0);
+            is(x.was(0, 1), ALL_DEPTHS);
+            x.lamp(0);
+            is(x.ask(1), 31);
+        }
+    }
+
+    static void askGoesByEachDepthWithItsCues() {
+        // PLACE 30 at DEPTH 7 comes to PLACE 31 at DEPTH 8
+        ShadowTheatre x = told("130k#", "ar" + times(18, "..") + "ab", "");
+        x.lamp(0);
+        is(x.ask(0), 31);
+        put(x, 1, "araral");
+        is(x.ask(0), 30);
+        put(x, 1, times(19, "..") + "ar");
+        is(x.ask(0), 31);
+        // each begins at PLACE 30; at 29 DEPTH 8 tells CELL 29
+        put(x, 1, "al");
+        is(x.ask(0), 29);
+        // each goes forward, so that none comes to DEPTH 8
+        put(x, 1, "araf");
         is(x.ask(0), 0);
     }
 

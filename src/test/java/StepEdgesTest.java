@@ -117,6 +117,19 @@ public final class StepEdgesTest extends Checks {
         return place;
     }
 
+    static void marksToldAnewCoverAnew() {
+        for (int f = 0; f < 8; f++) {
+            ShadowTheatre x = new ShadowTheatre();
+            for (String marks : new String[] {"#..", ".#.", "..#", "###", "..."}) {
+                put(x, 0, times(f, "100k.;") + "810k" + marks);
+                for (int mark = 0; mark < 3; mark++) {
+                    is(x.covers(0, 10 + mark), marks.charAt(mark) == '#' ? 1 << f : 0);
+                    is(x.light(0, 10 + mark), marks.charAt(mark) == '#' ? 0 : 7);
+                }
+            }
+        }
+    }
+
     static void everyRayGoesThroughItsPlace() {
         for (int depth = 1; depth <= 8; depth++) {
             for (int lamp = 0; lamp < 32; lamp++) {
@@ -570,6 +583,17 @@ public final class StepEdgesTest extends Checks {
     static void figures6And7Touch() {
         touch(figures("100k#;200k#;300k#;400k#;500k#;600k#;731k#;731k#"), 0, 6, 7);
         touch(figures("131k#;200k#;300k#;400k#;500k#;600k#;731k#;131k#"), 0, 0, 7);
+    }
+
+    static void figuresToldBeforeDoNotTouch() {
+        ShadowTheatre x = figures("405k#;405k#;405k#");
+        touch(x, 0, 0, 1);
+        put(x, 0, "405k#");
+        touch(x, NONE, NONE, NONE);
+        put(x, 0, "405k#;406k#");
+        touch(x, NONE, NONE, NONE);
+        put(x, 0, "");
+        touch(x, NONE, NONE, NONE);
     }
 
     static void touchedInAFlickerToo() {

@@ -30,10 +30,20 @@ public final class LanguageTest {
         "\\bpackage\\b", "->", "::", "\\w+Exact\\b", "\\bhashCode\\b", "\\btoString\\b", "\\bMIN_VALUE\\b", "\\bMAX_VALUE\\b",
         "\\bSystem\\.(?!arraycopy\\b)", "\\bThread\\b", "\\bRandom\\b", "\\bObject\\b", "\\bstatic\\s*\\{", "\\bprotected\\b"};
 
+    private static final Pattern LIBRARY_CALL = Pattern.compile(
+            "\\b(Integer|Long|Math|System|Arrays|List|String|Character|Byte|Short)\\.(\\w+)");
+    private static final Set<String> LIBRARY = Set.of(
+            "Integer.compare", "Integer.max", "Integer.min", "Integer.bitCount",
+            "Long.compare", "Long.max", "Long.min", "Long.bitCount",
+            "Math.max", "Math.min", "Math.abs", "Math.floorDiv", "Math.floorMod",
+            "System.arraycopy", "Arrays.copyOf", "Arrays.copyOfRange", "Arrays.fill", "List.of");
+    private static final int MOST_CLASSES = 12, MOST_FIELDS = 20, MOST_PARAMETERS = 7;
+
     private static int wrong = 0;
 
     public static void main(String[] args) throws Exception {
         face();
+        shape();
         words(args.length > 0 ? args[0] : "src/main/java/ShadowTheatre.java");
         noCallThrows();
         noCallMakesObjects();
@@ -49,25 +59,18 @@ public final class LanguageTest {
     private static void face() {
         Set<String> want = new TreeSet<>(Arrays.asList(FACE.split(";")));
         Set<String> got = new TreeSet<>();
-        Set<String> privates = new TreeSet<>();
         for (Method m : ShadowTheatre.class.getDeclaredMethods()) {
             if (m.isSynthetic()) continue;
-            if (Modifier.isPrivate(m.getModifiers())) {
-                privates.add(m.getName());
-                continue;
-            }
+            if (Modifier.isPrivate(m.getModifiers())) continue;
             StringBuilder types = new StringBuilder();
             for (Class<?> t : m.getParameterTypes()) types.append(types.length() == 0 ? "" : ",").append(t);
             got.add(m.getReturnType() + " " + m.getName() + "(" + types + ")");
             if (m.getModifiers() != Modifier.PUBLIC) fault(m + " is not plainly public");
         }
         if (!got.equals(want)) fault("the face is " + got);
-        for (String name : privates) if (FACE.matches(".*\\b" + name + "\\(.*")) fault("private and public: " + name);
         Set<String> constants = new TreeSet<>();
         for (Field f : ShadowTheatre.class.getDeclaredFields()) {
             if (!Modifier.isPrivate(f.getModifiers())) constants.add(f.toString());
-            boolean free = Modifier.isStatic(f.getModifiers()) && !Modifier.isFinal(f.getModifiers());
-            if (free) fault("static and not final: " + f);
         }
         Set<String> due = new TreeSet<>();
         for (String name : List.of("NONE", "BAD", "NOT", "FULL")) due.add("public static final int ShadowTheatre." + name);
@@ -81,6 +84,30 @@ public final class LanguageTest {
         if (ShadowTheatre.class.getModifiers() != (Modifier.PUBLIC | Modifier.FINAL)) fault("the class is not public and final");
     }
 
+    /** How many classes, fields and parameters there are; that what is static never changes. */
+    private static void shape() {
+        Class<?>[] inside = ShadowTheatre.class.getDeclaredClasses();
+        if (inside.length + 1 > MOST_CLASSES) fault("classes: " + (inside.length + 1));
+        shapeOf(ShadowTheatre.class);
+        for (Class<?> c : inside) shapeOf(c);
+    }
+
+    private static void shapeOf(Class<?> c) {
+        int fields = 0;
+        for (Field f : c.getDeclaredFields()) {
+            boolean isStatic = Modifier.isStatic(f.getModifiers());
+            if (!isStatic) fields++;
+            boolean constant = Modifier.isFinal(f.getModifiers()) && f.getType().isPrimitive();
+            if (isStatic && !constant) fault("static and no constant: " + f);
+        }
+        if (fields > MOST_FIELDS) fault(fields + " fields in " + c);
+        for (Method m : c.getDeclaredMethods()) {
+            if (m.getParameterCount() > MOST_PARAMETERS) fault("too many parameters: " + m);
+            boolean hidden = Modifier.isPrivate(m.getModifiers());
+            if (hidden && FACE.matches(".*\\b" + m.getName() + "\\(.*")) fault("private and public: " + m);
+        }
+    }
+
     private static void words(String file) throws IOException {
         String source = Files.readString(Path.of(file));
         String code = source.replaceAll("(?s)/\\*.*?\\*/", " ").replaceAll("//[^\n]*", " ")
@@ -88,6 +115,9 @@ public final class LanguageTest {
         for (String word : FORBIDDEN) {
             Matcher m = Pattern.compile(word).matcher(code);
             if (m.find()) fault("LANGUAGE.md forbids " + m.group());
+        }
+        for (Matcher m = LIBRARY_CALL.matcher(code); m.find();) {
+            if (!LIBRARY.contains(m.group())) fault("not in the library of LANGUAGE.md: " + m.group());
         }
         if (source.chars().anyMatch(c -> c > 126)) fault("a sign above 126");
         methodsAreShort(code.split("\n"));
